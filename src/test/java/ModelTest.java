@@ -12,16 +12,22 @@ public final class ModelTest {
     private static Oracle o;
     private static int run;
     private static int style;
+    private static boolean telling;
+    private static boolean rowsGo;
+    private static boolean bushy;
 
     public static void main(String[] args) {
         for (run = 0; run < RUNS; run++) {
             seed = run * 7919L + 17;
             style = pick(6);
+            telling = pick(4) == 0;
+            rowsGo = pick(3) == 0;
+            bushy = pick(3) == 0;
             x = new PaperRows();
             o = new Oracle();
             begin();
             for (int i = 0; i < CALLS; i++) {
-                call(pick(100));
+                call(telling && pick(8) != 0 ? pick(20) : pick(100));
             }
             look();
         }
@@ -42,8 +48,12 @@ public final class ModelTest {
     }
 
     private static int aRow() {
+        if (bushy && pick(3) == 0) {
+            return pick(2);
+        }
         int known = Math.max(1, o.count(1));
-        return pick(25) == 0 ? odd() : pick(known);
+        int row = pick(25) == 0 ? odd() : pick(known);
+        return o.of(row, 4) == 1 || pick(4) == 0 ? row : pick(known);
     }
 
     private static int aReference() {
@@ -59,9 +69,14 @@ public final class ModelTest {
     }
 
     private static void begin() {
-        int rows = pick(4) == 0 ? 60 : pick(20);
+        int rows = pick(2) == 0 ? 60 : pick(20);
         for (int i = 0; i < rows; i++) {
-            newRow();
+            if (bushy) {
+                int v = aValue(), r = Math.min(pick(6), i) - 1, s = Math.min(pick(6), i) - 1;
+                due("row", x.row(0, v, r, s), o.row(0, v, r, s));
+            } else {
+                newRow();
+            }
         }
         newShape();
         for (int i = pick(4); i > 0; i--) {
@@ -93,12 +108,16 @@ public final class ModelTest {
     private static String aText() {
         StringBuilder text = new StringBuilder();
         blanks(text);
-        part(text, 0, pick(3) == 0 ? 7 : 4);
+        if (pick(3) == 0) {
+            fat(text);
+        } else {
+            part(text, 0, pick(3) == 0 ? 7 : 4);
+        }
         blanks(text);
         if (text.length() > 200 && pick(4) != 0) {
             text.setLength(200);
         }
-        for (int i = pick(4) == 0 ? 1 + pick(2) : 0; i > 0; i--) {
+        for (int i = pick(5) == 0 ? 1 + pick(2) : 0; i > 0; i--) {
             spoil(text);
         }
         return text.toString();
@@ -116,6 +135,26 @@ public final class ModelTest {
             text.deleteCharAt(at);
         } else {
             text.setLength(at);
+        }
+    }
+
+    /** Few tables and many values: papers that come near the most marks. */
+    private static void fat(StringBuilder text) {
+        int parts = 1 + pick(4), values = pick(bushy ? 80 / (parts + 1) : 16);
+        for (int i = 0; i < parts; i++) {
+            text.append(style < 4 || pick(3) == 0 ? 'a' : 'b').append('{');
+            for (int k = 0; k < values; k++) {
+                text.append("v,");
+            }
+            text.append(pick(4) == 0 ? "up" : "down").append(pick(2));
+        }
+        text.append("a{v");
+        for (int k = 1; k < values; k++) {
+            text.append(",v");
+        }
+        text.append('}');
+        for (int i = 0; i < parts; i++) {
+            text.append(pick(2) == 0 ? ",v}" : "}");
         }
     }
 
@@ -166,7 +205,7 @@ public final class ModelTest {
         } else if (what < 20) {
             int r = aRow(), n = mostly(0, 2), to = aReference();
             due("refer(" + r + ", " + n + ", " + to + ")", x.refer(r, n, to), o.refer(r, n, to));
-        } else if (what < 22) {
+        } else if (what < 22 && (rowsGo || pick(8) == 0)) {
             int r = aRow();
             due("go(" + r + ")", x.go(r), o.go(r));
         } else if (what < 27) {
