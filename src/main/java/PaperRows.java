@@ -3,6 +3,7 @@ public final class PaperRows {
     public static final int NONE = -1;
 
     private static final int NOTHING = -5000;
+    private static final int HOW_MANY = -1;
 
     private static final int BAD_NUMBER = -1;
     private static final int NO_SUCH = -2;
@@ -175,7 +176,7 @@ public final class PaperRows {
     }
 
     public int page(int row, int n, int k, int i) {
-        boolean asksHowMany = i == NONE;
+        boolean asksHowMany = i == HOW_MANY;
         if (n < 1 || n > MOST_IN_PAGE || k < 0) {
             return asksHowMany ? 0 : NOTHING;
         }
@@ -206,7 +207,11 @@ public final class PaperRows {
         int sentTo = 0;
         for (int i = 0; i < readers.length; i++) {
             Reader one = readers[i];
-            if (one != null && !isUpToDate(one)) {
+            if (one == null) {
+                continue;
+            }
+            paper.gather(shape, now, one.row);
+            if (!paper.hasMarksOf(one.held)) {
                 one.held.takeFrom(paper);
                 sentTo |= 1 << i;
                 sendings++;
@@ -220,7 +225,7 @@ public final class PaperRows {
         if (one == null) {
             return NOTHING;
         }
-        return i == NONE ? one.held.length() : one.held.at(i);
+        return i == HOW_MANY ? one.held.length() : one.held.at(i);
     }
 
     public int same(int reader) {
@@ -228,7 +233,8 @@ public final class PaperRows {
         if (one == null) {
             return NONE;
         }
-        return isUpToDate(one) ? 1 : 0;
+        paper.gather(shape, now, one.row);
+        return paper.hasMarksOf(one.held) ? 1 : 0;
     }
 
     public int edit(int reader, int i, int value) {
@@ -258,7 +264,7 @@ public final class PaperRows {
             history.replay(moment, then);
         }
         paper.gather(shape, then, row);
-        return i == NONE ? paper.length() : paper.at(i);
+        return i == HOW_MANY ? paper.length() : paper.at(i);
     }
 
     public int touched(int row, int value) {
@@ -320,12 +326,6 @@ public final class PaperRows {
 
     private Reader readerAt(int number) {
         return number >= 0 && number < readers.length ? readers[number] : null;
-    }
-
-    /** Leaves the paper of now of the reader's row in paper. */
-    private boolean isUpToDate(Reader one) {
-        paper.gather(shape, now, one.row);
-        return paper.hasMarksOf(one.held);
     }
 
     private boolean isOtherwiseThen(int row) {
@@ -787,7 +787,8 @@ public final class PaperRows {
             }
             begun |= bit;
             add(BEGINS + row.number);
-            for (int item = 0; item < shape.items(); item++) {
+            int items = shape.items();
+            for (int item = 0; item < items; item++) {
                 int kind = shape.ownerOf(item) == part ? shape.kindOf(item) : NONE;
                 if (kind == ITEM_VALUE) {
                     add(row.value);
@@ -811,7 +812,8 @@ public final class PaperRows {
         private void addDown(Shape shape, Rows rows, int item, Row row, int depth) {
             int part = shape.partWithin(item);
             int r = shape.referenceOf(item);
-            for (int i = 0; i < MOST_ROWS && !isFull(); i++) {
+            int known = rows.known();
+            for (int i = 0; i < known && !isFull(); i++) {
                 Row from = rows.standing(i);
                 if (from != null && from.table == shape.tableOf(part) && from.referenceBy(r) == row.number) {
                     addPart(shape, rows, part, from, depth + 1);

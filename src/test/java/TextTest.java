@@ -141,6 +141,14 @@ public final class TextTest {
         faults("   ", 3);
         faults("e", 0);
         faults("ab", 0);
+        faults("az", 0);
+        faults("za", 0);
+        faults("a`{v}", 1);
+        faults("a~", 1);
+        faults("a{vz}", 2);
+        faults("a{up09b}", 4);
+        faults("a{up0/b}", 5);
+        faults("a{up0:b}", 5);
         faults("  A", 2);
         faults("a b", 2);
         faults("a}", 1);
