@@ -132,19 +132,25 @@ public final class CountBoundsTest {
     }
 
     // "What the latest call of row, value, refer, go, shape, reader, edit was REFUSED by"
-    private static void promise22EachRefusal() {
+    private static PaperRows withAReader() {
         PaperRows x = Check.shaped("a{v}");
         x.row(0, 5, -1, -1);
         x.reader(0);
         x.send();
+        return x;
+    }
+
+    private static void promise22EachRefusal() {
         int[] due = {-1, -1, -2, -1, -2, -1, -2, -2, -6, -2, -1, -2, -3};
         for (int kind = 0; kind < due.length; kind++) {
+            PaperRows x = withAReader();
             check.told(x, "value(0, 5)", x.value(0, 5), 5, 0);
             check.told(x, "refused call " + kind, refused(x, kind), due[kind], due[kind]);
             others(x);
             check.due("status() stays behind others", x.status(), due[kind]);
         }
         for (int last = 0; last < due.length; last++) {
+            PaperRows x = withAReader();
             for (int next = 0; next < due.length; next++) {
                 refused(x, last);
                 check.told(x, "refused call " + next + " behind " + last, refused(x, next), due[next], due[next]);
@@ -185,10 +191,7 @@ public final class CountBoundsTest {
     private static void promise22ZeroIfNotRefused() {
         int[] answers = {1, 0, 0, 1, 0, 1, 0};
         for (int refusal = 0; refusal <= 12; refusal++) {
-            PaperRows x = Check.shaped("a{v}");
-            x.row(0, 5, -1, -1);
-            x.reader(0);
-            x.send();
+            PaperRows x = withAReader();
             for (int kind = 0; kind < answers.length; kind++) {
                 check.due("status() behind refusal " + refusal, refused(x, refusal), x.status());
                 check.told(x, "call " + kind + " behind it", taken(x, kind), answers[kind], 0);

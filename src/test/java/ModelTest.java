@@ -1,7 +1,9 @@
 /** Long runs of calls, the same ones each time, each answer against the oracle's. */
 public final class ModelTest {
-    private static final int RUNS = 2500;
+    private static final int RUNS = 8000;
+    // What an object answers behind its 512th call is free.
     private static final int CALLS = 512;
+    private static final int CALLS_OF_LOOK = 70;
     private static final int[] ODD = {Integer.MIN_VALUE, Integer.MIN_VALUE + 1, -20001, -1002, -1001, -1000, -3, -2, -1, 0, 1, 2, 3, 4, 5,
         9, 10, 11, 59, 60, 61, 100, 101, 199, 200, 201, 299, 300, 301, 599, 600, 601, 1000, 1001, 10000, 65536, 1 << 30,
         Integer.MAX_VALUE - 1, Integer.MAX_VALUE};
@@ -11,6 +13,7 @@ public final class ModelTest {
     private static PaperRows x;
     private static Oracle o;
     private static int run;
+    private static int callsLeft;
     private static int style;
     private static boolean telling;
     private static boolean rowsGo;
@@ -25,11 +28,15 @@ public final class ModelTest {
             bushy = pick(3) == 0;
             x = new PaperRows();
             o = new Oracle();
+            callsLeft = CALLS;
             begin();
-            for (int i = 0; i < CALLS; i++) {
+            while (callsLeft > CALLS_OF_LOOK) {
                 call(telling && pick(8) != 0 ? pick(20) : pick(100));
             }
-            look();
+            while (callsLeft > 1) {
+                look();
+            }
+            check.due("calls beyond the last", Math.max(0, -callsLeft), 0);
         }
         check.close();
     }
@@ -82,11 +89,28 @@ public final class ModelTest {
         for (int i = pick(4); i > 0; i--) {
             due("reader", x.reader(0), o.reader(0));
         }
+        int told = pick(5) == 0 ? 280 + pick(21) : 0;
+        while (o.count(4) < told && callsLeft > 2 * CALLS_OF_LOOK) {
+            tellARow();
+        }
+    }
+
+    private static void tellARow() {
+        int r = aRow(), v = aValue(), n = pick(2), to = aReference();
+        if (pick(2) == 0) {
+            due("value(" + r + ", " + v + ")", x.value(r, v), o.value(r, v));
+        } else {
+            due("refer(" + r + ", " + n + ", " + to + ")", x.refer(r, n, to), o.refer(r, n, to));
+        }
     }
 
     private static void due(String call, int got, int want) {
+        callsLeft--;
         check.due("run " + run + " " + call, got, want);
-        check.due("run " + run + " status behind " + call, x.status(), o.status());
+        if (got < 0 || pick(10) == 0) {
+            callsLeft--;
+            check.due("run " + run + " status behind " + call, x.status(), o.status());
+        }
     }
 
     private static void newRow() {
@@ -292,19 +316,20 @@ public final class ModelTest {
     }
 
     private static void look() {
-        for (int w = -1; w < 8; w++) {
+        int what = pick(12);
+        if (what == 0) {
+            int w = pick(7);
             due("count(" + w + ")", x.count(w), o.count(w));
-        }
-        for (int r = 0; r < 10; r++) {
-            for (int i = -1; i < 610; i += 1 + i / 40) {
-                due("holds(" + r + ", " + i + ")", x.holds(r, i), o.holds(r, i));
-            }
-        }
-        for (int r = -1; r < 61; r += 7) {
-            for (int w = -1; w < 6; w++) {
-                due("of(" + r + ", " + w + ")", x.of(r, w), o.of(r, w));
-            }
-            due("asOf(300, " + r + ", -1)", x.asOf(o.count(4), r, -1), o.asOf(o.count(4), r, -1));
+        } else if (what < 7) {
+            int r = aReader(), size = Math.max(0, o.holds(r, -1));
+            int i = pick(3) == 0 ? size - 1 : pick(size + 2) - 1;
+            due("holds(" + r + ", " + i + ")", x.holds(r, i), o.holds(r, i));
+        } else if (what < 11) {
+            int r = aRow(), w = pick(5);
+            due("of(" + r + ", " + w + ")", x.of(r, w), o.of(r, w));
+        } else {
+            int m = o.count(4), r = aRow();
+            due("asOf(" + m + ", " + r + ", -1)", x.asOf(m, r, -1), o.asOf(m, r, -1));
         }
     }
 }

@@ -350,10 +350,10 @@ public final class PaperBoundsTest {
 
     // "PAGES of n MARKS (1 .. 100)"
     private static void promise13PagesOf1To100() {
-        PaperRows x = marksBehind(3);
         for (int n = 1; n <= 100; n++) {
-            pages(x, 593, n);
+            pages(marksBehind(3), 593, n);
         }
+        PaperRows x = marksBehind(3);
         for (int n : new int[] {0, -1, 101, -100, LEAST, MOST}) {
             check.due("page(0, " + n + ", 0, -1)", x.page(0, n, 0, -1), 0);
             check.due("page(0, " + n + ", 0, 0)", x.page(0, n, 0, 0), Check.NOTHING);
@@ -363,13 +363,13 @@ public final class PaperBoundsTest {
 
     // "page k has MARKS k n .. k n + n - 1, as there are."
     private static void promise13FirstAndLastPage() {
-        PaperRows x = Check.shaped("a{v,up0a{v},up1a{v}}");
-        x.row(0, 1, -1, -1);
-        x.row(0, 2, -1, -1);
-        x.row(0, 3, 0, 1);
         int[] marks = {10002, 3, 10000, 1, 30000, 10001, 2, 30000, 30000};
-        check.paper(x, 2, marks);
         for (int n = 1; n <= 12; n++) {
+            PaperRows x = Check.shaped("a{v,up0a{v},up1a{v}}");
+            x.row(0, 1, -1, -1);
+            x.row(0, 2, -1, -1);
+            x.row(0, 3, 0, 1);
+            check.paper(x, 2, marks);
             for (int k = -2; k <= 10; k++) {
                 for (int i = -2; i <= 13; i++) {
                     int has = k < 0 ? 0 : Math.max(0, Math.min(n, 9 - k * n));
@@ -381,10 +381,10 @@ public final class PaperBoundsTest {
     }
 
     private static void promise13PagesOf600() {
-        PaperRows x = marksBehind(14);
         for (int n = 1; n <= 100; n++) {
-            pages(x, 600, n);
+            pages(marksBehind(14), 600, n);
         }
+        PaperRows x = marksBehind(14);
         check.due("page(0, 100, 5, -1)", x.page(0, 100, 5, -1), 100);
         check.due("page(0, 100, 5, 99)", x.page(0, 100, 5, 99), 7);
         check.due("page(0, 100, 6, -1)", x.page(0, 100, 6, -1), 0);

@@ -165,11 +165,16 @@ public final class PaperTest {
         check.due("mark(0, 599) of 601", y.mark(0, 599), 20054);
     }
 
-    private static void promise13Page() {
+    private static PaperRows of7Marks() {
         PaperRows x = Check.shaped("a{v,v,v,v,v}");
         x.row(0, 5, -1, -1);
+        return x;
+    }
+
+    private static void promise13Page() {
         int[] marks = {10000, 5, 5, 5, 5, 5, 30000};
         for (int n = 1; n <= 100; n++) {
+            PaperRows x = of7Marks();
             for (int k = 0; k < 9; k++) {
                 int has = Math.max(0, Math.min(n, 7 - k * n));
                 check.due("page(0, " + n + ", " + k + ", -1)", x.page(0, n, k, -1), has);
@@ -179,6 +184,7 @@ public final class PaperTest {
                 }
             }
         }
+        PaperRows x = of7Marks();
         int[][] without = {{0, 0, 0}, {0, -1, 0}, {0, 101, 0}, {0, 5, -1}, {1, 5, 0}, {-1, 5, 0}, {0, 7, 1},
             {0, Integer.MIN_VALUE, 0}, {0, 5, Integer.MIN_VALUE}, {0, 100, Integer.MAX_VALUE}, {0, 64, 1 << 26}, {0, 2, 1 << 31}, {60, 5, 0}};
         for (int[] one : without) {
