@@ -17,6 +17,7 @@ public final class ReaderBoundsTest {
         editOfWhatIsNoValue();
         editOfAGoneRow();
         editOfAValueThatIsNotHeld();
+        editBehindRowsThatStandAlready();
         editMakesOneMarkOtherwise();
         editAtTheCut();
         editIsRefusedInOrder();
@@ -286,6 +287,31 @@ public final class ReaderBoundsTest {
         check.due("send() to the other", x.send(), 2);
         check.told(x, "the other's edit of 7", x.edit(1, 1, 8), 0, 0);
         check.told(x, "the first one's edit of 7", x.edit(0, 1, 9), -3, -3);
+    }
+
+    // What stands already (20,000 .. 20,059) begins no row: the value behind it is of the row around it.
+    private static void editBehindRowsThatStandAlready() {
+        PaperRows x = Check.shaped("a{up0a,v,up1a{v,up0a,v,up1a,v},v}");
+        for (int i = 0; i < 60; i++) {
+            x.row(0, i, i == 0 ? -1 : 0, -1);
+        }
+        x.refer(0, 0, 0);
+        x.refer(0, 1, 59);
+        x.refer(59, 1, 59);
+        x.reader(0);
+        x.send();
+        check.held(x, 0, 10000, 20000, 0, 10059, 59, 20000, 59, 20059, 59, 30000, 0, 30000);
+        check.told(x, "edit behind 20000", x.edit(0, 2, 100), 0, 0);
+        x.value(0, 0);
+        check.told(x, "edit behind an end", x.edit(0, 10, 101), 0, 0);
+        check.told(x, "edit behind a beginning", x.edit(0, 4, 102), 59, 0);
+        x.value(59, 59);
+        check.told(x, "edit behind 20000 within", x.edit(0, 6, 103), 59, 0);
+        x.value(59, 59);
+        check.told(x, "edit behind 20059 within", x.edit(0, 8, 104), 59, 0);
+        check.held(x, 0, 10000, 20000, 100, 10059, 102, 20000, 103, 20059, 104, 30000, 101, 30000);
+        check.due("of(0, 1)", x.of(0, 1), 101);
+        check.due("of(59, 1)", x.of(59, 1), 104);
     }
 
     // "Else the ROW's VALUE becomes that, and MARK i of what the READER holds as well."

@@ -198,10 +198,13 @@ public final class RowBoundsTest {
         check.told(x, "refer of a gone one to none", x.refer(5, 0, -1), -2, -2);
         check.told(x, "refer to a gone one", x.refer(0, 1, 5), -2, -2);
         check.due("count(4) stays", x.count(4), 61);
-        int[][] told = {{0, 59}, {1, 0}, {0, 0}, {1, 59}, {1, -1}, {0, -1}};
+        int[][] told = {{0, 59}, {1, 0}, {0, 0}, {0, 58}, {1, 59}, {0, 59}, {1, 1}, {1, -1}, {1, 2}, {0, -1}, {1, -1}};
+        int[] references = {-1, -1};
         for (int[] one : told) {
+            references[one[0]] = one[1];
             check.told(x, "refer(0, " + one[0] + ", " + one[1] + ")", x.refer(0, one[0], one[1]), 0, 0);
-            check.due("of(0, " + (2 + one[0]) + ")", x.of(0, 2 + one[0]), one[1]);
+            check.due("of(0, 2) behind it", x.of(0, 2), references[0]);
+            check.due("of(0, 3) behind it", x.of(0, 3), references[1]);
         }
     }
 
@@ -490,6 +493,19 @@ public final class RowBoundsTest {
         for (int what = 0; what < 5; what++) {
             check.due("of a gone row " + what, x.of(0, what), gone[what]);
             check.due("of a row that referred to it " + what, x.of(1, what), stands[what]);
+        }
+        x.row(2, 7, 1, -1);
+        x.row(2, 8, -1, 2);
+        x.row(1, 9, 2, 3);
+        x.go(1);
+        x.go(2);
+        x.go(3);
+        x.go(4);
+        int[][] told = {{0, -1000, 0, 0, 0}, {2, 7, 1, -1, 0}, {2, 8, -1, 2, 0}, {1, 9, 2, 3, 0}};
+        for (int row = 1; row <= 4; row++) {
+            for (int what = 0; what < 5; what++) {
+                check.due("of(" + row + ", " + what + ") when all are gone", x.of(row, what), told[row - 1][what]);
+            }
         }
         check.due("of a gone row 5", x.of(0, 5), Check.NOTHING);
         check.due("of a gone row -1", x.of(0, -1), Check.NOTHING);

@@ -19,6 +19,7 @@ public final class TextBoundsTest {
         atMost20Parts();
         atMost6Braces();
         bracesSideBySide();
+        theFirstOfManyFaults();
         faultAtTheEnd();
         promise7HighestFirst();
         promise7NumbersOfAnySize();
@@ -71,6 +72,15 @@ public final class TextBoundsTest {
         faults(times("z", 200), 0);
         faults("a{" + times("v,", 99), 200);
         faults("a{" + times("v,", 98) + "v,", 200);
+        // A token that ends with the 200th byte is as long as any other.
+        faults(times(" ", 198) + "aa", 198);
+        faults(times(" ", 199) + "z", 199);
+        faults("a{" + times(" ", 196) + "up", 200);
+        faults("a{" + times(" ", 195) + "vup", 197);
+        faults("a{up" + times(" ", 194) + "01", 200);
+        faults("a{up" + times(" ", 194) + "02", 198);
+        faults("a{up" + times("0", 195) + "1", 200);
+        faults("a{up0" + times(" ", 194) + "b", 200);
         PaperRows x = Check.shaped("a{" + times("v,", 98) + "v}");
         x.row(0, 3, -1, -1);
         check.due("size of 99 values", x.size(0), 101);
@@ -306,6 +316,24 @@ public final class TextBoundsTest {
         String more = times("a{up0", 5) + "a{v},up1b{up0b";
         reads(more + times("}", 6), 8);
         faults(more + "{v}" + times("}", 6), more.length());
+    }
+
+    // "FAULT: the first TOKEN that can't go on there", where there are more than one
+    private static void theFirstOfManyFaults() {
+        faults("e{?", 0);
+        faults("a{up2e}", 4);
+        faults("a{up0e?", 5);
+        faults("a{v?}}", 3);
+        faults("a?" + times(" ", 197) + "?", 1);
+        // 20 PARTS, the last of them in six braces: one part more, one brace more.
+        String full = "a{" + times("up0b,", 13) + times("up0a{", 5) + "up0b";
+        reads(full + times("}", 6), 20);
+        faults(full + "{up0b}" + times("}", 6), full.length());
+        faults(full + ",up0b{v}" + times("}", 6), full.length() + 4);
+        // Nineteen only: the seventh "{" comes ahead of the part that would be one more.
+        String less = "a{" + times("up0b,", 12) + times("up0a{", 5) + "up0b";
+        faults(less + "{up0b,up0b}" + times("}", 6), less.length());
+        reads(less + ",up1b" + times("}", 6), 20);
     }
 
     // "the first TOKEN that can't go on there (the end's: the TEXT's length)"
